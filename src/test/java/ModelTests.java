@@ -14,7 +14,7 @@ public final class ModelTests {
         int wrong = 0;
         int[] answered = new int[28];
         for (int seed = 0; seed < RUNS; seed++) {
-            wrong += run(seed, answered);
+            wrong += run(seed, answered) + wishRun(seed);
         }
         for (int call = 1; call < answered.length; call++) {
             if (answered[call] == 0) {
@@ -30,23 +30,78 @@ public final class ModelTests {
 
     private static int run(int seed, int[] answered) {
         Random random = new Random(seed);
-        EtchBath x = new EtchBath();
-        Model model = new Model();
-        for (int i = 0; i < CALLS; i++) {
+        Pair pair = new Pair("seed " + seed);
+        for (int i = 0; i < CALLS && !pair.parted; i++) {
             int call = 1 + random.nextInt(27);
             int[] a = arguments(random, call, seed);
-            int got = ask(x, call, a);
-            int want = model.ask(call, a);
-            if (got != want) {
-                System.out.println("seed " + seed + ", call " + i + ": " + call + "(" + a[0] + ", " + a[1] + ", "
-                    + a[2] + ") answered " + got + ", the model " + want);
-                return 1;
-            }
-            if (got > -1000000) {
+            if (pair.ask(call, a[0], a[1], a[2]) > -1000000) {
                 answered[call]++;
             }
         }
-        return 0;
+        return pair.parted ? 1 : 0;
+    }
+
+    /** Cells of different depths and grounds, and as many wishes as can be met: the random runs seldom have them. */
+    private static int wishRun(int seed) {
+        Random random = new Random(seed);
+        Pair pair = new Pair("wishes, seed " + seed);
+        int plate = random.nextInt(3);
+        for (int c = 0; c < 9; c++) {
+            pair.ask(1, 100 * plate + c, random.nextInt(3), 0);
+        }
+        for (int c = 0; c < 9; c++) {
+            pair.ask(6, plate, 1 + random.nextInt(5), 0);
+            pair.ask(3, 100 * plate + c, random.nextInt(2), 0);
+        }
+        pair.ask(4, plate, 0, 0);
+        pair.ask(5, 1 + random.nextInt(seed % 2 == 0 ? 3 : 9), random.nextInt(5), 0);
+        for (int i = 0; i < 16; i++) {
+            int cell = 100 * plate + random.nextInt(9);
+            int tone = random.nextInt(16);
+            if (pair.ask(9, cell, tone, 0) >= 0) {
+                pair.ask(10, cell, tone, 0);
+            }
+        }
+        pair.ask(12, 0, 0, 0);
+        for (int i = 0; i < 10; i++) {
+            pair.ask(13, i, 0, 0);
+        }
+        pair.ask(14, 0, 0, 0);
+        for (int c = 0; c < 10; c++) {
+            for (int what = 0; what < 5; what++) {
+                pair.ask(8, 100 * plate + c, what, 0);
+            }
+        }
+        return pair.parted ? 1 : 0;
+    }
+
+    /** The class and the model, asked the same until they part. */
+    private static final class Pair {
+        final EtchBath x = new EtchBath();
+        final Model model = new Model();
+        final String name;
+        boolean parted;
+        int calls;
+
+        Pair(String name) {
+            this.name = name;
+        }
+
+        int ask(int call, int a, int b, int c) {
+            if (parted) {
+                return 0;
+            }
+            int[] all = {a, b, c};
+            int got = ModelTests.ask(x, call, all);
+            int want = model.ask(call, all);
+            if (got != want) {
+                parted = true;
+                System.out.println(name + ", call " + calls + ": " + call + "(" + a + ", " + b + ", " + c
+                    + ") answered " + got + ", the model " + want);
+            }
+            calls++;
+            return got;
+        }
     }
 
     /** Runs differ in how often a call is wrong, so that some go deep and some are refused much. */

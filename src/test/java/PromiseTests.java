@@ -301,6 +301,8 @@ public final class PromiseTests {
         due("full", x.wish(109, 2), FULL);
         due("beyond, ahead of all", x.wish(103, 16), BEYOND);
         due("wish(100, -1)", x.wish(100, -1), BEYOND);
+        due("baths of eight", x.baths(), 1);
+        due("minute(0) of eight", x.minute(0), 150);
         for (int cell : NO_CELLS) {
             due("wish(" + cell + ", 0)", x.wish(cell, 0), BEYOND);
         }
@@ -409,6 +411,25 @@ public final class PromiseTests {
         due("work() with a stopped wish", x.work(), NONE);
         due("wishes stay", x.count(1), 2);
         due("about(105, 1)", x.about(105, 1), 80);
+        EtchBath y = new EtchBath();
+        y.wish(0, 1);
+        y.wish(1, 3);
+        y.wish(2, 4);
+        due("work()", y.work(), 3);
+        due("about(0, 1)", y.about(0, 1), 40);
+        due("about(1, 1)", y.about(1, 1), 120);
+        due("about(2, 1)", y.about(2, 1), 160);
+        due("about(3, 1)", y.about(3, 1), 160);
+        y.clean(0);
+        y.bath(9, 4);
+        y.ground(3, 2);
+        // The span of tone 5 is minute 2 alone.
+        due("span", y.span(3, 5, false), 2);
+        due("span", y.span(3, 5, true), 2);
+        y.wish(3, 5);
+        due("work()", y.work(), 1);
+        due("about(3, 1)", y.about(3, 1), 238);
+        due("about(3, 2)", y.about(3, 2), 1);
     }
 
     private static void keepChangedBack() {
@@ -583,6 +604,7 @@ public final class PromiseTests {
         due("count(2)", x.count(2), 8);
         due("edition()", x.edition(), 0);
         due("of another plate now", x.guard(200, 0, 0), 1);
+        due("another plate than one", x.guard(100, 0, 0), STATE);
         due("edition()", x.edition(), 300);
     }
 
@@ -608,6 +630,8 @@ public final class PromiseTests {
         due("the first that isn't", x.check(2), 2);
         x.tell(0);
         due("another plate", x.check(1), 0);
+        x.tell(0);
+        due("already the first isn't", x.check(2), 1);
         for (int plate : NO_PLATES) {
             x.tell(7);
             due("check(" + plate + ")", x.check(plate), BEYOND);
@@ -628,7 +652,7 @@ public final class PromiseTests {
         x.keep(1);
         x.keep(2);
         x.tell(5);
-        x.stop(10, 1);
+        x.stop(0, 1);
         x.stop(110, 1);
         x.stop(235, 1);
         x.pull(7);
