@@ -50,14 +50,15 @@ public final class PromiseTests {
 
     private static void newObject() {
         promise = "1 new object";
-        EtchBath x = new EtchBath();
         for (int plate = 0; plate < 3; plate++) {
+            EtchBath bare = new EtchBath();
             for (int c = 0; c < 36; c++) {
                 for (int what = 0; what < 5; what++) {
-                    due("about", x.about(100 * plate + c, what), 0);
+                    due("about", bare.about(100 * plate + c, what), 0);
                 }
             }
         }
+        EtchBath x = new EtchBath();
         due("count(0)", x.count(0), 4);
         for (int what = 1; what < 7; what++) {
             due("count(" + what + ")", x.count(what), 0);
