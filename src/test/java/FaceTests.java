@@ -91,11 +91,15 @@ public final class FaceTests {
         due(allClasses().size() <= 12, "too many classes");
         for (Class<?> type : allClasses()) {
             due(type == EtchBath.class || Modifier.isStatic(type.getModifiers()), "not static: " + type);
+            int own = 0;
             for (Field field : type.getDeclaredFields()) {
                 int is = field.getModifiers();
                 due(Modifier.isPrivate(is), "not private: " + field);
                 due(!Modifier.isStatic(is) || Modifier.isFinal(is), "static and not final: " + field);
+                due(!Modifier.isStatic(is) || field.getType() == int.class, "static and no int: " + field);
+                own += Modifier.isStatic(is) ? 0 : 1;
             }
+            due(own <= 20, "too many fields: " + type);
         }
     }
 
